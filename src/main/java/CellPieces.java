@@ -241,7 +241,7 @@ public final class CellPieces {
     private static long rectangle(int from, int to) {
         long set = 0L;
         for (int cell = from; cell <= to; cell++) {
-            // Lines are in order from first to last cell already; only the columns are left to ask.
+            // From the first cell to the last one all lines are the box's; the columns need not be.
             int x = cell % SIDE;
             if (x >= from % SIDE && x <= to % SIDE) {
                 set |= 1L << cell;
@@ -256,7 +256,8 @@ public final class CellPieces {
         return count(changed);
     }
 
-    // The column at the border is left out, or its cells would come back on the other side.
+    // The column at the border is left out here and below, or its cells would come back on the
+    // other side.
     private static long movedLeft(long set) {
         return (set & ~LEFT_COLUMN) >>> 1;
     }

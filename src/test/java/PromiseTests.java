@@ -335,6 +335,12 @@ public final class PromiseTests {
         CellPieces lastIsLargest = picture("##......", "........", "........", "........",
                 "........", "........", "........", ".....###");
         due("largest(4), the last", lastIsLargest.largest(4), 3);
+        for (int cell = 0; cell < 64; cell++) {
+            CellPieces one = new CellPieces();
+            one.turn(cell);
+            due("largest(4) of cell " + cell + " alone", one.largest(4), 1);
+            due("largest(8) of cell " + cell + " alone", one.largest(8), 1);
+        }
         for (int mode : WRONG_MODES) {
             due("largest(" + mode + ")", x.largest(mode), BAD_ARG);
         }
