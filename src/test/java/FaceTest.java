@@ -83,8 +83,9 @@ public final class FaceTest {
             int modifiers = method.getModifiers();
             if (!Modifier.isPrivate(modifiers)) {
                 boolean isPlain = Modifier.isPublic(modifiers) && !Modifier.isStatic(modifiers);
-                found.add((isPlain ? "" : "not public or static ") + method.getReturnType().getName()
-                        + " " + method.getName() + parameters(method.getParameterTypes()));
+                found.add((isPlain ? "" : "not public or static ")
+                        + method.getReturnType().getName() + " " + method.getName()
+                        + parameters(method.getParameterTypes()));
             }
         }
         return found;

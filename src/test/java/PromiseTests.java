@@ -1,40 +1,5 @@
 /** For each promise: ordinary calls, the edges that the document names, and wrong arguments. */
-public final class PromiseTests {
-    private static final int BAD_ARG = -1;
-    private static final int NONE = -4;
-    private static final int LOWEST = Integer.MIN_VALUE;
-    private static final int HIGHEST = Integer.MAX_VALUE;
-    private static final int[] WRONG_MODES = {
-        LOWEST, -8, -4, -1, 0, 1, 2, 3, 5, 6, 7, 9, 12, 16, 68, 72, 260, 264, HIGHEST};
-    private static final int[] WRONG_CELLS = {LOWEST, -64, -8, -1, 64, 65, 71, 128, HIGHEST};
-
-    // A ring whose corner (5, 4) is missing, a pair that touches it there, and a closed ring below.
-    private static final String[] SAMPLE = {
-        "........",
-        ".#####..",
-        ".#...#..",
-        ".#...#..",
-        ".####.##",
-        "........",
-        "###.....",
-        "#.#....#"};
-    private static final String[] EMPTY = {
-        "........", "........", "........", "........",
-        "........", "........", "........", "........"};
-    private static final String[] FULL = {
-        "########", "########", "########", "########",
-        "########", "########", "########", "########"};
-    private static final String[] BOARD = {
-        "#.#.#.#.", ".#.#.#.#", "#.#.#.#.", ".#.#.#.#",
-        "#.#.#.#.", ".#.#.#.#", "#.#.#.#.", ".#.#.#.#"};
-    // One long way, so that a search that stops early is found out.
-    private static final String[] SNAKE = {
-        "########", ".......#", "########", "#.......",
-        "########", ".......#", "########", "#......."};
-
-    private static int wrong = 0;
-    private static String promise = "";
-
+public final class PromiseTests extends Checks {
     public static void main(String[] args) {
         newObject();
         turn();
@@ -54,50 +19,11 @@ public final class PromiseTests {
         clear();
         depth();
         way();
-        System.out.println(wrong == 0 ? "all promises hold" : wrong + " answers are not as due");
-        if (wrong != 0) {
-            System.exit(1);
-        }
-    }
-
-    private static void due(String call, int got, int want) {
-        if (got != want) {
-            wrong++;
-            System.out.println("promise " + promise + ": " + call + " answered " + got + ", due is "
-                    + want);
-        }
-    }
-
-    private static void duePicture(String after, CellPieces x, String... want) {
-        String got = shown(x);
-        if (!got.equals(String.join("\n", want))) {
-            wrong++;
-            System.out.println("promise " + promise + ": after " + after + " the picture is\n" + got
-                    + "\ndue is\n" + String.join("\n", want));
-        }
-    }
-
-    // Only a cell that is off has depth 0, and asking for it changes nothing.
-    private static String shown(CellPieces x) {
-        StringBuilder text = new StringBuilder();
-        for (int cell = 0; cell < 64; cell++) {
-            text.append(cell > 0 && cell % 8 == 0 ? "\n" : "").append(x.depth(cell) == 0 ? '.' : '#');
-        }
-        return text.toString();
-    }
-
-    private static CellPieces picture(String... rows) {
-        CellPieces x = new CellPieces();
-        for (int cell = 0; cell < 64; cell++) {
-            if (rows[cell / 8].charAt(cell % 8) == '#') {
-                x.turn(cell);
-            }
-        }
-        return x;
+        end();
     }
 
     private static void newObject() {
-        promise = "1";
+        about("promise 1");
         CellPieces x = new CellPieces();
         due("cells()", x.cells(), 0);
         duePicture("making", x, EMPTY);
@@ -108,7 +34,7 @@ public final class PromiseTests {
     }
 
     private static void turn() {
-        promise = "2";
+        about("promise 2");
         CellPieces x = new CellPieces();
         for (int cell = 0; cell < 64; cell++) {
             due("turn(" + cell + ")", x.turn(cell), 1);
@@ -131,7 +57,7 @@ public final class PromiseTests {
     }
 
     private static void line() {
-        promise = "3";
+        about("promise 3");
         CellPieces x = picture(SAMPLE);
         due("line(1, 129)", x.line(1, 129), 62);
         due("line(7, 1)", x.line(7, 1), 133);
@@ -154,7 +80,7 @@ public final class PromiseTests {
     }
 
     private static void box() {
-        promise = "4";
+        about("promise 4");
         CellPieces x = new CellPieces();
         due("box(10, 37, 1)", x.box(10, 37, 1), 16);
         due("box(9, 19, 1)", x.box(9, 19, 1), 2);
@@ -186,7 +112,7 @@ public final class PromiseTests {
     }
 
     private static void cells() {
-        promise = "5";
+        about("promise 5");
         due("cells() of none", picture(EMPTY).cells(), 0);
         due("cells() of the sample", picture(SAMPLE).cells(), 21);
         due("cells() of all", picture(FULL).cells(), 64);
@@ -196,7 +122,7 @@ public final class PromiseTests {
     }
 
     private static void pieces() {
-        promise = "6";
+        about("promise 6");
         due("pieces(4) of none", picture(EMPTY).pieces(4), 0);
         due("pieces(8) of none", picture(EMPTY).pieces(8), 0);
         due("pieces(4) of all", picture(FULL).pieces(4), 1);
@@ -218,7 +144,7 @@ public final class PromiseTests {
     }
 
     private static void holes() {
-        promise = "7";
+        about("promise 7");
         due("holes(4) of none", picture(EMPTY).holes(4), 0);
         due("holes(8) of all", picture(FULL).holes(8), 0);
         due("holes(4) of the sample", picture(SAMPLE).holes(4), 0);
@@ -251,7 +177,7 @@ public final class PromiseTests {
     }
 
     private static void balance() {
-        promise = "8";
+        about("promise 8");
         due("balance(4) of none", picture(EMPTY).balance(4), 0);
         due("balance(8) of all", picture(FULL).balance(8), 1);
         due("balance(4) of the sample", picture(SAMPLE).balance(4), 4);
@@ -267,7 +193,7 @@ public final class PromiseTests {
     }
 
     private static void piece() {
-        promise = "9";
+        about("promise 9");
         CellPieces x = picture(SAMPLE);
         due("piece(4, 36)", x.piece(4, 36), 9);
         due("piece(4, 39)", x.piece(4, 39), 38);
@@ -297,7 +223,7 @@ public final class PromiseTests {
     }
 
     private static void size() {
-        promise = "10";
+        about("promise 10");
         CellPieces x = picture(SAMPLE);
         due("size(4, 36)", x.size(4, 36), 13);
         due("size(8, 36)", x.size(8, 36), 15);
@@ -323,7 +249,7 @@ public final class PromiseTests {
     }
 
     private static void largest() {
-        promise = "11";
+        about("promise 11");
         due("largest(4) of none", picture(EMPTY).largest(4), 0);
         due("largest(8) of none", picture(EMPTY).largest(8), 0);
         due("largest(4) of all", picture(FULL).largest(4), 64);
@@ -348,7 +274,7 @@ public final class PromiseTests {
     }
 
     private static void edge() {
-        promise = "12";
+        about("promise 12");
         due("edge() of none", picture(EMPTY).edge(), 0);
         due("edge() of all", picture(FULL).edge(), 32);
         due("edge() of the board", picture(BOARD).edge(), 128);
@@ -364,7 +290,7 @@ public final class PromiseTests {
     }
 
     private static void grow() {
-        promise = "13";
+        about("promise 13");
         CellPieces x = picture("........", "........", "...#....", "........",
                 "........", "........", "........", "#......#");
         due("grow(4)", x.grow(4), 8);
@@ -388,7 +314,7 @@ public final class PromiseTests {
     }
 
     private static void shrink() {
-        promise = "14";
+        about("promise 14");
         CellPieces x = picture(FULL);
         due("shrink(4) of all", x.shrink(4), 28);
         duePicture("shrink(4)", x, "........", ".######.", ".######.", ".######.",
@@ -416,7 +342,7 @@ public final class PromiseTests {
     }
 
     private static void fill() {
-        promise = "15";
+        about("promise 15");
         CellPieces x = picture(SAMPLE);
         due("fill(4)", x.fill(4), 0);
         duePicture("fill(4)", x, SAMPLE);
@@ -445,7 +371,7 @@ public final class PromiseTests {
     }
 
     private static void clear() {
-        promise = "16";
+        about("promise 16");
         CellPieces x = picture(SAMPLE);
         due("clear(4, 0)", x.clear(4, 0), 0);
         due("clear(4, 1)", x.clear(4, 1), 0);
@@ -476,7 +402,7 @@ public final class PromiseTests {
     }
 
     private static void depth() {
-        promise = "17";
+        about("promise 17");
         CellPieces x = picture(FULL);
         for (int cell = 0; cell < 64; cell++) {
             int across = Math.min(cell % 8, 7 - cell % 8);
@@ -501,7 +427,7 @@ public final class PromiseTests {
     }
 
     private static void way() {
-        promise = "18";
+        about("promise 18");
         CellPieces x = picture(SAMPLE);
         due("way(4, 9, 9)", x.way(4, 9, 9), 0);
         due("way(4, 36, 29)", x.way(4, 36, 29), 12);
