@@ -240,10 +240,11 @@ public final class CellPieces {
 
     private static long rectangle(int from, int to) {
         long set = 0L;
-        for (int cell = from; cell <= to; cell++) {
-            // From the first cell to the last one all lines are the box's; the columns need not be.
+        for (int cell = 0; cell < ALL_CELLS; cell++) {
             int x = cell % SIDE;
-            if (x >= from % SIDE && x <= to % SIDE) {
+            int y = cell / SIDE;
+            boolean inColumns = x >= from % SIDE && x <= to % SIDE;
+            if (inColumns && y >= from / SIDE && y <= to / SIDE) {
                 set |= 1L << cell;
             }
         }
